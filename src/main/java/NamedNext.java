@@ -414,8 +414,6 @@ public final class NamedNext {
 
         void empty() {
             length = 0;
-            start = 0;
-            end = 0;
         }
 
         void goToFirstToken() {
@@ -720,11 +718,12 @@ public final class NamedNext {
         int today;
         final int[] holders = new int[MOST_BOOKS];
         final int[] had = new int[MOST_BOOKS];
+        /** The day of each one's last naming, from which its dust is counted. */
         final int[] lastNamed = new int[MOST_BOOKS];
 
         void beginAnew(Told told) {
             today = 0;
-            for (int book = 0; book < MOST_BOOKS; book++) {
+            for (int book = 0; book < told.books; book++) {
                 holders[book] = told.firsts[book];
                 had[book] = 1 << told.firsts[book];
                 lastNamed[book] = 0;
@@ -791,12 +790,17 @@ public final class NamedNext {
          */
         private static final long[] LOTS = {1, 1, 2, 12, 144, 8640, 518400, 217728000};
 
+        /** Whose ODDS are asked for. */
         int asked;
         private final Told told;
         private final int[] liked = new int[MOST_READERS];
+        /** By namings from now: who has not moved away by then. */
         private final int[] hereAfter = new int[MOST_READERS];
+        /** By the set of those who have had the book: who else is still here on the day when it comes to that. */
         private final int[] openBehind = new int[SETS];
+        /** By the same set: who of them can hold the book then. */
         private final int[] holdersBySet = new int[SETS];
+        /** By state: the longest row from there; and the measure that is asked for. */
         private final long[] most = new long[SETS * MOST_READERS];
         private final long[] worth = new long[SETS * MOST_READERS];
         private int hadNow;

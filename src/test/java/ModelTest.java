@@ -623,7 +623,7 @@ public final class ModelTest {
             case 0: case 1: case 2: return WORDS[pick(1, 4)] + blank + pick(0, 9);
             case 3: return "book" + blank + random.nextInt(n);
             case 4: return "move" + blank + random.nextInt(n) + blank + pick(0, random.nextInt(3) == 0 ? 99 : 5);
-            case 5: return "peace";
+            case 5: return random.nextInt(4) == 0 ? "library" : "peace";
             default: return "feud" + blank + random.nextInt(n) + blank + random.nextInt(n);
         }
     }

@@ -90,7 +90,10 @@ public final class PromiseTest {
         faultAt("peace;;peace", 6);
         faultAt("peace peace", 6);
         faultAt("peace 1", 6);
-        faultAt("peacex", 0);
+        faultAt("peacea", 0);
+        faultAt("peacez", 0);
+        faultAt("peace{", 5);
+        faultAt("peace`", 5);
         faultAt("Peace", 0);
         faultAt("peace.", 5);
         faultAt("peace\t", 5);
@@ -120,6 +123,12 @@ public final class PromiseTest {
         faultAt("plain 1;move 0 100", 15);
         faultAt("plain 1;move 1 0", 13);
         faultAt("plain 1;move 0", 14);
+        faultAt("move", 4);
+        faultAt("move;peace", 4);
+        faultAt("book", 4);
+        faultAt("book;peace", 4);
+        faultAt("plain 1;book /", 13);
+        faultAt("plain 1;book :", 13);
         faultAt("book 0", 5);
         faultAt("plain 1;book 0", NONE);
         faultAt("plain 1;book 0;library;book 0", 28);
@@ -180,7 +189,10 @@ public final class PromiseTest {
         due("count(0): all as at first", x.count(0), 1);
         due("count(1): all as at first", x.count(1), 0);
         due("reader(0, 3): all as at first", x.reader(0, 3), 99);
+        more(x, "plain 1;feud 0 1;book 1;move 0 2;library;blind 4;blind 4;book 0");
         due("reader(0, 2): all as at first", x.reader(0, 2), 0);
+        due("reader(1, 3): all as at first", x.reader(1, 3), 99);
+        due("book(0, 4): all as at first", x.book(0, 4), 0);
         afterLibrary();
     }
 
@@ -625,6 +637,11 @@ public final class PromiseTest {
         // 0 and 1 can only name one another: the books change places and are walled.
         NamedNext y = told("plain 1;plain 1;book 0;book 1");
         due("meet(0, 1): they cross", y.meet(0, 1), NONE);
+        NamedNext low = told("plain 1;plain 1;plain 1;book 1;book 2");
+        due("meet(0, 1) at 0", low.meet(0, 1), 1);
+        // 0 names 1, 2; 1 names 0, 3; 2 and 3 name all. Book 0 can be with 1 2, 1 3, 1 2 3, book 1 with 0 3, 0 2, 0 2 3.
+        NamedNext late = told("plain 2;sulker 2;sulker 8;blind 1;feud 3 0;book 0;book 1");
+        due("meet(0, 1) when all have had both", late.meet(0, 1), 3);
         // 0 names only 2 or 1, 1 names only 0: 0 2 3 and 1 0 2 pass each other by a day.
         NamedNext z = told("plain 1;plain 1;plain 1;plain 1;feud 1 2;feud 1 3;feud 0 3;book 0;book 1");
         due("meet(0, 1) of two who go one behind the other", z.meet(0, 1), NONE);
