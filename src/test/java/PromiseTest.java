@@ -133,6 +133,11 @@ public final class PromiseTest {
         faultAt("plain 1;book 0", NONE);
         faultAt("plain 1;book 0;library;book 0", 28);
         faultAt("plain 1;library;plain 1;book 0", NONE);
+        faultAt(" ".repeat(160), 160);
+        faultAt("peace" + " ".repeat(155), NONE);
+        faultAt(" ".repeat(155) + "peace", NONE);
+        faultAt(" ".repeat(154) + "peace;", 160);
+        faultAt(" ".repeat(155) + "plain", 160);
         manyClauses();
         faultsByWhatWasTold();
     }
