@@ -98,7 +98,7 @@ public final class NamedNext {
             case 0: return days.holders[book];
             case 1: return days.had[book];
             case 2: return days.today - days.lastNamed[book];
-            case 3: return isWalled(book) ? 1 : 0;
+            case 3: return namableNow(book) == 0 ? 1 : 0;
             case 4: return told.firsts[book];
             default: return OUTSIDE;
         }
@@ -351,14 +351,10 @@ public final class NamedNext {
         return told.namable(days.holders[book], days.today) & ~days.had[book];
     }
 
-    private boolean isWalled(int book) {
-        return namableNow(book) == 0;
-    }
-
     private int walledBooks() {
         int walled = 0;
         for (int book = 0; book < told.books; book++) {
-            if (isWalled(book)) {
+            if (namableNow(book) == 0) {
                 walled |= 1 << book;
             }
         }

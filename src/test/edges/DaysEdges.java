@@ -87,7 +87,8 @@ final class DaysEdges extends Edge {
 
     private static void ranks() {
         says(TERMS, "a FLATTERER names nobody of a RANK below his; a SULKER nobody of a RANK above his.");
-        NamedNext x = told("flatterer 5;sulker 5;plain 4;plain 5;plain 6;plain 0;plain 9;blind 5;book 0;book 1;book 3;book 7");
+        NamedNext x = told("flatterer 5;sulker 5;plain 4;plain 5;plain 6;plain 0;plain 9;blind 5",
+            "book 0;book 1;book 3;book 7");
         int[] ranksBelow = {2, 5};
         int[] ranksAlike = {3};
         int[] ranksAbove = {4, 6};

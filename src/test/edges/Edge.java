@@ -69,6 +69,20 @@ abstract class Edge {
         return (clause + ";").repeat(n).replaceAll(";$", "");
     }
 
+    /** So many plain readers, of whom only these pairs name one another, as all others are in feud; and books. */
+    static NamedNext pairs(int readers, String pairs, String books) {
+        NamedNext x = told(times(readers, "plain 1"));
+        for (int a = 0; a < readers; a++) {
+            for (int b = a + 1; b < readers; b++) {
+                if (!pairs.contains("" + a + b)) {
+                    tell(x, "feud " + a + " " + b);
+                }
+            }
+        }
+        tell(x, books);
+        return x;
+    }
+
     static void days(NamedNext x, int n) {
         for (int i = 0; i < n; i++) {
             x.day();

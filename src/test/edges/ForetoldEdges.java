@@ -163,14 +163,19 @@ final class ForetoldEdges extends Edge {
         due("longest(0, 1) of 1 and 2 3", fork.longest(0, 1), 1);
         due("row(0, 0) of 1 and 2 3", fork.row(0, 0), 2);
         due("row(0, 1) of 1 and 2 3", fork.row(0, 1), 3);
-        // 1 names 3 and 2 names 3, who names 4, all others feud: 1 3 4, 2 3 4, of which 1 comes first.
-        NamedNext two = told("plain 1;plain 1;plain 1;plain 1;plain 1;book 0",
-            "feud 0 3;feud 0 4;feud 1 2;feud 1 4;feud 2 4");
-        due("longest(0, 0) of 1 3 4, 1 3 2 ..", two.longest(0, 0), 3);
-        due("longest(0, 1)", two.longest(0, 1), 4);
-        due("row(0, 0)", two.row(0, 0), 1);
-        due("row(0, 1)", two.row(0, 1), 3);
-        due("row(0, 2): 2 comes ahead of 4", two.row(0, 2), 2);
+        // The rows 1 3 2, 1 3 4, 2 3 1, 2 3 4, of which the first is told.
+        NamedNext four = pairs(5, "01 02 13 23 34", "book 0");
+        due("longest(0, 0) of four rows alike", four.longest(0, 0), 3);
+        due("longest(0, 1) of four rows alike", four.longest(0, 1), 4);
+        due("row(0, 0) of four rows alike", four.row(0, 0), 1);
+        due("row(0, 1) of four rows alike", four.row(0, 1), 3);
+        due("row(0, 2) of four rows alike", four.row(0, 2), 2);
+        // From 3 the rows 0 and 1 2: who comes first of all is not in the longest.
+        NamedNext last = pairs(4, "03 13 12", "book 3");
+        due("longest(0, 0) of 0 and 1 2", last.longest(0, 0), 2);
+        due("longest(0, 1) of 0 and 1 2", last.longest(0, 1), 1);
+        due("row(0, 0) of 0 and 1 2", last.row(0, 0), 1);
+        due("all(0) of 0 and 1 2", last.all(0), 0b0110);
     }
 
     private static void shortest() {
@@ -258,23 +263,19 @@ final class ForetoldEdges extends Edge {
         odds(alone(), 0, 1, 1);
         odds(pair(), 1, 1, 1);
         odds(all(), 3, 1, 1);
-        // Of seven, who have no one else: 1/7 each; a part below that is not one of 2 .. 4.
-        NamedNext seven = told(EIGHT, "feud 1 2;feud 1 3;feud 1 4;feud 1 5;feud 1 6;feud 1 7;feud 2 3;feud 2 4;feud 2 5",
-            "feud 2 6;feud 2 7;feud 3 4;feud 3 5;feud 3 6;feud 3 7;feud 4 5;feud 4 6;feud 4 7;feud 5 6",
-            "feud 5 7;feud 6 7;book 0");
+        // 0 names any of seven, who name nobody: 1/7 each.
+        NamedNext seven = pairs(8, "01 02 03 04 05 06 07", "book 0");
         mean(seven, 1, 1);
         for (int reader = 1; reader < 8; reader++) {
             odds(seven, reader, 1, 7);
         }
-        // The same, but 6 and 7 name one another, and 5 and 6: 5 6 7, 6 5, 6 7, 7 6 5 each by lot.
-        tell(seven, "peace");
-        tell(seven, "feud 1 2;feud 1 3;feud 1 4;feud 1 5;feud 1 6;feud 1 7;feud 2 3;feud 2 4;feud 2 5");
-        tell(seven, "feud 2 6;feud 2 7;feud 3 4;feud 3 5;feud 3 6;feud 3 7;feud 4 5;feud 4 6;feud 4 7;feud 5 7");
-        mean(seven, 12, 7);
-        odds(seven, 1, 1, 7);
-        odds(seven, 5, 5, 14);
-        odds(seven, 6, 3, 7);
-        odds(seven, 7, 5, 14);
+        // The same, but 6 names 5 and 7, and they him: 1, 2, 3, 4, 5 6 7, 7 6 5 by 1/7 each, 6 5, 6 7 by 1/14 each.
+        NamedNext more = pairs(8, "01 02 03 04 05 06 07 56 67", "book 0");
+        mean(more, 12, 7);
+        odds(more, 1, 1, 7);
+        odds(more, 5, 5, 14);
+        odds(more, 6, 3, 7);
+        odds(more, 7, 5, 14);
         // None at all: 0 above 1.
         NamedNext none = moving();
         days(none, 2);
@@ -380,6 +381,9 @@ final class ForetoldEdges extends Edge {
         due("a day later, when 4 moves a day later", x.meet(0, 1), 2);
         x.day();
         due("two days later", x.meet(0, 1), NONE);
+        // Behind 0 1 2 and 0 2 1 alike book 0 has been with the same three: either one who holds it then counts.
+        due("3, whom only 1 names", pairs(8, "01 02 12 13 24 56 67 37", "book 0;book 5").meet(0, 1), 3);
+        due("4, whom only 2 names", pairs(8, "01 02 12 13 24 56 67 47", "book 0;book 5").meet(0, 1), 3);
         // Both are named on each day: 0, who names nobody, cannot wait for the other book.
         NamedNext y = told("plain 1;blind 1;feud 0 1;book 0;book 1");
         due("may(1, 0)", y.may(1, 0), 1);

@@ -70,14 +70,17 @@ final class SlipsEdges extends Edge {
         forged(slipped(EIGHT, 0, 1, 2, 3), 0, 0);
         forged(slipped(EIGHT, 0, 1, 2, 1), 1, 1);
         forged(slipped(EIGHT, 0, 1, 2, 1, 3, 1), 2, 3);
-        forged(slipped(EIGHT, 0, 7, 1, 7, 2, 7, 3, 7, 4, 7, 5, 7, 6, 7, 0, 6), 6, 63);
-        due("holder() when 6, of all who named 7, is left", slipped(EIGHT, 0, 7, 1, 7, 2, 7, 3, 7, 4, 7, 5, 7, 6, 7, 0, 6).holder(), 7);
+        forged(slipped(EIGHT, 0, 1, 2, 3, 4, 1), 1, 1);
+        NamedNext x = slipped(EIGHT, 0, 7, 1, 7, 2, 7, 3, 7, 4, 7, 5, 7, 6, 7, 0, 6);
+        forged(x, 6, 63);
+        due("holder() when 6 is left of all who named 7", x.holder(), 7);
     }
 
     private static void eachNamingOne() {
         says(TERMS, "naming at most one");
         forged(slipped(EIGHT, 0, 1, 0, 2), 1, 1);
         forged(slipped(EIGHT, 0, 1, 0, 2, 0, 3), 2, 3);
+        forged(slipped(EIGHT, 0, 1, 2, 3, 0, 4), 1, 1);
         forged(slipped(EIGHT, 0, 1, 1, 2), 0, 0);
         forged(slipped(EIGHT, 7, 0, 7, 1, 7, 2, 7, 3, 7, 4, 7, 5, 7, 6), 6, 63);
     }
@@ -195,7 +198,8 @@ final class SlipsEdges extends Edge {
             }
             for (int reader = 0; reader < 8; reader++) {
                 int same = reader;
-                refused(() -> busy(slips), "slip(" + same + ", " + same + ") behind " + slips, y -> y.slip(same, same), UNKNOWN);
+                refused(() -> busy(slips), "slip(" + same + ", " + same + ") behind " + slips,
+                    y -> y.slip(same, same), UNKNOWN);
             }
         }
         refused(() -> busy(8), "slip(0, 1) behind eight", y -> y.slip(0, 1), FULL);

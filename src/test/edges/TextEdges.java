@@ -234,7 +234,8 @@ final class TextEdges extends Edge {
             faultAt(x, clause.replace(word, word.substring(0, word.length() - 1)), 0);
             faultAt(x, clause.substring(0, 1).toUpperCase() + clause.substring(1), 0);
         }
-        for (String other : new String[] {"reader 1", "flatter 1", "feuds 0 1", "war 0 1", "wall", "name 0 1", "0", "1 plain"}) {
+        String[] others = {"reader 1", "flatter 1", "feuds 0 1", "war 0 1", "wall", "name 0 1", "0", "1 plain"};
+        for (String other : others) {
             faultAt(x, other, 0);
         }
     }
@@ -704,7 +705,8 @@ final class TextEdges extends Edge {
         write(x, times(14, "peace"));
         due("library() of fourteen", x.library(), 14);
         due("readers", x.count(0), 1);
-        for (String text : new String[] {"", " ", "plain 1;", "plain 1;plain 10", times(15, "peace"), "plain 1;x", "plain"}) {
+        String[] wrong = {"", " ", "plain 1;", "plain 1;plain 10", times(15, "peace"), "plain 1;x", "plain"};
+        for (String text : wrong) {
             refused(() -> busyWith(text), "library() of '" + text + "'", NamedNext::library, NOT);
         }
     }
