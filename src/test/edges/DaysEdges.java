@@ -503,7 +503,10 @@ final class DaysEdges extends Edge {
             x.burn();
             x.slip(4, 5);
             x.name(2, 1);
+            x.write(' ');
             due("back(" + k + ")", x.back(k), 3);
+            // It is the library that is kept; what is being written of it goes on.
+            due("letters of the text", x.count(8), 9);
             due("who holds book 1", x.book(1, 0), 1);
             due("who has had book 2", x.book(2, 1), 128);
             due("dust of book 0", x.book(0, 2), 3);
