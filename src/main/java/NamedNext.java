@@ -875,21 +875,21 @@ public final class NamedNext {
             int rings = 0;
             // A ring is counted once: from its least reader.
             for (int least = 0; least < told.readers; least++) {
-                rings += ringsThrough(least, least, here, k - 1);
+                rings += ringsThrough(liked, least, least, here, k - 1);
             }
             return rings;
         }
 
         /** How many ways lead from one over so many more of the free readers, all over the least, and back to it. */
-        private int ringsThrough(int least, int who, int free, int more) {
-            if (more <= 0) {
-                return hasBit(liked[who] & free, least) ? 1 : 0;
-            }
+        private static int ringsThrough(int[] liked, int least, int who, int free, int more) {
             int choices = liked[who] & free;
+            if (more <= 0) {
+                return hasBit(choices, least) ? 1 : 0;
+            }
             int rings = 0;
-            for (int next = least + 1; next < told.readers; next++) {
+            for (int next = least + 1; next < liked.length; next++) {
                 if (hasBit(choices, next)) {
-                    rings += ringsThrough(least, next, free & ~(1 << next), more - 1);
+                    rings += ringsThrough(liked, least, next, free & ~(1 << next), more - 1);
                 }
             }
             return rings;
